@@ -235,7 +235,7 @@ public final class Queueward {
             throw new IllegalArgumentException("parts is out of range");
         }
         chain.parts[from][to] = parts;
-        return chain.sumOfParts(from);
+        return sumOf(chain.parts[from]);
     }
 
     public int group(int state) throws IndexOutOfBoundsException, NoSuchElementException {
@@ -354,11 +354,11 @@ public final class Queueward {
     public int way(int from, int to, int percent) throws IndexOutOfBoundsException, IllegalArgumentException {
         needNodes(from, to);
         if (percent < 0 || percent > 100
-            || network.sumOfPercents(from) - network.percents[from][to] + percent > 100) {
+            || sumOf(network.percents[from]) - network.percents[from][to] + percent > 100) {
             throw new IllegalArgumentException("the percent is out of range");
         }
         network.percents[from][to] = percent;
-        return network.sumOfPercents(from);
+        return sumOf(network.percents[from]);
     }
 
     public int rate(int node) throws IndexOutOfBoundsException, NoSuchElementException {
@@ -565,16 +565,33 @@ public final class Queueward {
         return freeSums[rule];
     }
 
-    /** Adds to each set of things led to what those lead to in their turn. */
-    private static void closeLinks(int[] leads, int count) {
-        int end = Math.min(count, leads.length);
-        for (int middle = 0; middle < end; middle++) {
-            for (int from = 0; from < end; from++) {
-                if ((leads[from] >> middle & 1) != 0) {
+    /** Puts the set of those that each of some things leads to, by any number of ways, in the place of leads. */
+    private static void followWays(int[][] ways, int count, int[] leads) {
+        for (int from = 0; from < count; from++) {
+            leads[from] = 1 << from;
+            for (int to = 0; to < count; to++) {
+                leads[from] |= ways[from][to] > 0 ? 1 << to : 0;
+            }
+        }
+        for (int middle = 0; middle < count; middle++) {
+            for (int from = 0; from < count; from++) {
+                if (isIn(leads[from], middle)) {
                     leads[from] |= leads[middle];
                 }
             }
         }
+    }
+
+    private static boolean isIn(int set, int number) {
+        return (set >> number & 1) != 0;
+    }
+
+    private static int sumOf(int[] row) {
+        int sum = 0;
+        for (int number : row) {
+            sum += number;
+        }
+        return sum;
     }
 
     /** A whole number from 0 on: limbs of nine decimal digits, so that it is written without dividing it. */
@@ -1300,7 +1317,7 @@ public final class Queueward {
                 long sum = 0;
                 long sign = 1;
                 for (int column = used - 1; column >= 0; column--) {
-                    if ((columns >> column & 1) != 0) {
+                    if (isIn(columns, column)) {
                         sum += sign * cells[row][column] * minors[columns ^ 1 << column];
                         sign = -sign;
                     }
@@ -1318,8 +1335,9 @@ public final class Queueward {
 
         int count = 1;
         int base = 1;
+        // From a state no parts lead to numbers beyond count.
         final int[][] parts = new int[MOST_STATES][MOST_STATES];
-        // Of each state, the set of those that it leads to, itself among them.
+        // Sets of states, and of nodes, are numbers with a bit for each: here those that a state leads to, and itself.
         private final int[] leads = new int[MOST_STATES];
         private final long[] trees = new long[MOST_STATES];
         private final Square square = new Square();
@@ -1345,17 +1363,9 @@ public final class Queueward {
             }
         }
 
-        int sumOfParts(int state) {
-            int sum = 0;
-            for (int to = 0; to < count; to++) {
-                sum += parts[state][to];
-            }
-            return sum;
-        }
-
         boolean isLawful() {
             for (int state = 0; state < count; state++) {
-                if (sumOfParts(state) != base) {
+                if (sumOf(parts[state]) != base) {
                     return false;
                 }
             }
@@ -1363,19 +1373,11 @@ public final class Queueward {
         }
 
         void findLeads() {
-            for (int from = 0; from < count; from++) {
-                leads[from] = 1 << from;
-                for (int to = 0; to < count; to++) {
-                    if (parts[from][to] > 0) {
-                        leads[from] |= 1 << to;
-                    }
-                }
-            }
-            closeLinks(leads, count);
+            followWays(parts, count, leads);
         }
 
         private boolean doesLead(int from, int to) {
-            return (leads[from] >> to & 1) != 0;
+            return isIn(leads[from], to);
         }
 
         /** Whether all that a state leads to lead back: then what it leads to is its group. */
@@ -1419,10 +1421,10 @@ public final class Queueward {
         private long determinant(int members, int replaced, int to) {
             int row = 0;
             for (int from = 0; from < count; from++) {
-                if ((members >> from & 1) != 0) {
+                if (isIn(members, from)) {
                     int column = 0;
                     for (int other = 0; other < count; other++) {
-                        if ((members >> other & 1) != 0) {
+                        if (isIn(members, other)) {
                             square.put(row, column, other == replaced
                                 ? (to == NONE ? base : parts[from][to])
                                 : (from == other ? base : 0) - parts[from][other]);
@@ -1439,7 +1441,7 @@ public final class Queueward {
         private long growTrees(int group) {
             long sum = 0;
             for (int state = 0; state < count; state++) {
-                trees[state] = (group >> state & 1) != 0 ? determinant(group ^ 1 << state, NONE, NONE) : 0;
+                trees[state] = isIn(group, state) ? determinant(group ^ 1 << state, NONE, NONE) : 0;
                 sum += trees[state];
             }
             return sum;
@@ -1506,7 +1508,7 @@ public final class Queueward {
             int members = from == to ? 0 : 1 << from;
             for (int round = 0; round < count; round++) {
                 for (int state = 0; state < count; state++) {
-                    for (int other = 0; other < count && (members >> state & 1) != 0; other++) {
+                    for (int other = 0; other < count && isIn(members, state); other++) {
                         if (other != to && parts[state][other] > 0) {
                             members |= 1 << other;
                         }
@@ -1519,7 +1521,7 @@ public final class Queueward {
         boolean isReachedSurely(int from, int to) {
             int members = onTheWay(from, to);
             for (int state = 0; state < count; state++) {
-                if ((members >> state & 1) != 0 && !doesLead(state, to)) {
+                if (isIn(members, state) && !doesLead(state, to)) {
                     return false;
                 }
             }
@@ -1622,31 +1624,11 @@ public final class Queueward {
             }
         }
 
-        int sumOfPercents(int node) {
-            int sum = 0;
-            for (int to = 0; to < count; to++) {
-                sum += percents[node][to];
-            }
-            return sum;
-        }
-
-        private void findLeads() {
-            for (int from = 0; from < count; from++) {
-                leads[from] = 1 << from;
-                for (int to = 0; to < count; to++) {
-                    if (percents[from][to] > 0) {
-                        leads[from] |= 1 << to;
-                    }
-                }
-            }
-            closeLinks(leads, count);
-        }
-
         boolean areRatesThere() {
-            findLeads();
+            followWays(percents, count, leads);
             int exits = 0;
             for (int node = 0; node < count; node++) {
-                exits |= sumOfPercents(node) < 100 ? 1 << node : 0;
+                exits |= sumOf(percents[node]) < 100 ? 1 << node : 0;
             }
             for (int node = 0; node < count; node++) {
                 if ((leads[node] & exits) == 0) {
@@ -1657,9 +1639,9 @@ public final class Queueward {
         }
 
         boolean isWithoutOutside() {
-            findLeads();
+            followWays(percents, count, leads);
             for (int node = 0; node < count; node++) {
-                if (comings[node] != 0 || sumOfPercents(node) != 100 || leads[node] != (1 << count) - 1) {
+                if (comings[node] != 0 || sumOf(percents[node]) != 100 || leads[node] != (1 << count) - 1) {
                     return false;
                 }
             }
@@ -1677,7 +1659,7 @@ public final class Queueward {
         private long determinant(int full, int replaced) {
             for (int row = 0; row < count; row++) {
                 for (int column = 0; column < count; column++) {
-                    long passed = (full >> column & 1) == 0 ? percents[column][row] : 0;
+                    long passed = isIn(full, column) ? 0 : percents[column][row];
                     square.put(row, column, column == replaced
                         ? knownComings(row, full) : (row == column ? 100 : 0) - passed);
                 }
@@ -1688,7 +1670,7 @@ public final class Queueward {
         private long knownComings(int node, int full) {
             long sum = 100L * comings[node];
             for (int from = 0; from < count; from++) {
-                if ((full >> from & 1) != 0) {
+                if (isIn(full, from)) {
                     sum += (long) serves[from] * percents[from][node];
                 }
             }

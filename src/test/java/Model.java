@@ -25,6 +25,11 @@ public final class Model {
     private final List<int[]> row = new ArrayList<>();
     private final int[][] options = new int[3][2];
 
+    /** The RESULT as write() puts it. */
+    String text() {
+        return result.above + "/" + result.below;
+    }
+
     int jobCount() {
         return jobs.size();
     }
@@ -89,9 +94,8 @@ public final class Model {
     }
 
     public int write() {
-        String text = result.above + "/" + result.below;
-        state(text.length() <= 900);
-        tape = text;
+        state(text().length() <= 900);
+        tape = text();
         return tape.length();
     }
 
