@@ -98,7 +98,7 @@ public final class Queueward {
     }
 
     public int read() throws IllegalArgumentException, IllegalStateException {
-        if (tape.scan() != NONE || !tape.isInRange()) {
+        if (tape.scan() != NONE || !tape.areNumbersInRange()) {
             throw new IllegalArgumentException("the tape has a fault, or a number out of range");
         }
         int latest = jobs.latestTick();
@@ -911,7 +911,7 @@ public final class Queueward {
             }
         }
 
-        boolean isInRange() {
+        boolean areNumbersInRange() {
             for (int come = 0; come < comes; come++) {
                 if (!Jobs.isInRange(told(come, Jobs.TICK), told(come, Jobs.LENGTH),
                     told(come, Jobs.KIND), told(come, Jobs.WEIGHT))) {
@@ -1124,6 +1124,8 @@ public final class Queueward {
         final int[] first = new int[Jobs.MOST_JOBS];
         final int[] left = new int[Jobs.MOST_JOBS];
         private final int[] rest = new int[Jobs.MOST_JOBS];
+        // What the rules 2 and 3 compare.
+        private final int[] rank = new int[Jobs.MOST_JOBS];
         private final int[] row = new int[Jobs.MOST_JOBS];
         private int waiting;
         // Those who are served stand by their numbers, as they go back to the row in this order.
@@ -1149,7 +1151,7 @@ public final class Queueward {
             for (int tick = 0; tick < MOST_TICKS && (next < jobs.count || waiting + busy > 0); tick++) {
                 letGo(jobs, tick);
                 letIn(jobs, tick);
-                seat(jobs, tick);
+                seat(tick);
                 there[tick] = waiting + busy;
                 work(tick);
                 ticks = tick + 1;
@@ -1171,6 +1173,7 @@ public final class Queueward {
                 first[next] = NONE;
                 left[next] = tick;
                 rest[next] = jobs.part(next, Jobs.LENGTH);
+                rank[next] = jobs.part(next, rule == LEAST_KIND_RULE ? Jobs.KIND : Jobs.LENGTH);
                 if (waiting + busy < servers + room) {
                     state[next] = THERE;
                     putInRow(next);
@@ -1180,9 +1183,9 @@ public final class Queueward {
             }
         }
 
-        private void seat(Jobs jobs, int tick) {
+        private void seat(int tick) {
             for (int free = servers - busy; free > 0 && waiting > 0; free--) {
-                int job = takeOut(placeToServe(jobs));
+                int job = takeOut(placeToServe());
                 if (first[job] == NONE) {
                     first[job] = tick;
                 }
@@ -1240,27 +1243,26 @@ public final class Queueward {
             return place;
         }
 
-        private int placeToServe(Jobs jobs) {
+        private int placeToServe() {
             if (rule == LAST_RULE) {
                 return waiting - 1;
             }
+            if (rule == LEAST_REST_RULE) {
+                return placeOfLeast(rest);
+            }
+            return rule == LEAST_LENGTH_RULE || rule == LEAST_KIND_RULE ? placeOfLeast(rank) : 0;
+        }
+
+        /** Of several, that of the lowest number. */
+        private int placeOfLeast(int[] sizes) {
             int best = 0;
-            if (rule == LEAST_LENGTH_RULE || rule == LEAST_KIND_RULE || rule == LEAST_REST_RULE) {
-                for (int place = 1; place < waiting; place++) {
-                    int more = sizeByRule(jobs, row[place]) - sizeByRule(jobs, row[best]);
-                    if (more < 0 || more == 0 && row[place] < row[best]) {
-                        best = place;
-                    }
+            for (int place = 1; place < waiting; place++) {
+                int more = sizes[row[place]] - sizes[row[best]];
+                if (more < 0 || more == 0 && row[place] < row[best]) {
+                    best = place;
                 }
             }
             return best;
-        }
-
-        private int sizeByRule(Jobs jobs, int job) {
-            if (rule == LEAST_LENGTH_RULE) {
-                return jobs.part(job, Jobs.LENGTH);
-            }
-            return rule == LEAST_KIND_RULE ? jobs.part(job, Jobs.KIND) : rest[job];
         }
 
         int timeOf(Jobs jobs, int job) {
@@ -1418,7 +1420,7 @@ public final class Queueward {
          * The determinant of base less parts over a set of states: there the right side of the equations takes the
          * place of a state's column, if there is one: the parts to a state, or the base for each step without such.
          */
-        private long determinant(int members, int replaced, int to) {
+        private long determinantOver(int members, int replaced, int to) {
             int row = 0;
             for (int from = 0; from < count; from++) {
                 if (isIn(members, from)) {
@@ -1441,7 +1443,7 @@ public final class Queueward {
         private long growTrees(int group) {
             long sum = 0;
             for (int state = 0; state < count; state++) {
-                trees[state] = isIn(group, state) ? determinant(group ^ 1 << state, NONE, NONE) : 0;
+                trees[state] = isIn(group, state) ? determinantOver(group ^ 1 << state, NONE, NONE) : 0;
                 sum += trees[state];
             }
             return sum;
@@ -1458,14 +1460,14 @@ public final class Queueward {
         boolean doSharesStay() {
             findLeads();
             for (int least = 0; least < count; least++) {
-                if (isLeastOfGroup(least) && !doSharesStay(leads[least])) {
+                if (isLeastOfGroup(least) && !doSharesStayIn(leads[least])) {
                     return false;
                 }
             }
             return true;
         }
 
-        private boolean doSharesStay(int group) {
+        private boolean doSharesStayIn(int group) {
             long sum = growTrees(group);
             long sumThen = 0;
             for (int to = 0; to < count; to++) {
@@ -1498,8 +1500,8 @@ public final class Queueward {
         }
 
         private int solve(int members, int from, int to, Fraction fraction) {
-            long above = determinant(members, from, to);
-            long below = determinant(members, NONE, NONE);
+            long above = determinantOver(members, from, to);
+            long below = determinantOver(members, NONE, NONE);
             return fraction.setLongs(Math.max(above, 0), Math.max(below, 1));
         }
 
@@ -1650,13 +1652,13 @@ public final class Queueward {
 
         /** Solves what comes to the nodes, if those of a set are full: they pass on their service rates. */
         void solve(int full) {
-            below = Math.max(determinant(full, NONE), 1);
+            below = Math.max(determinantWith(full, NONE), 1);
             for (int node = 0; node < count; node++) {
-                above[node] = determinant(full, node);
+                above[node] = determinantWith(full, node);
             }
         }
 
-        private long determinant(int full, int replaced) {
+        private long determinantWith(int full, int replaced) {
             for (int row = 0; row < count; row++) {
                 for (int column = 0; column < count; column++) {
                     long passed = isIn(full, column) ? 0 : percents[column][row];

@@ -4,7 +4,10 @@ import java.lang.reflect.Method;
 import java.math.BigInteger;
 import java.util.Random;
 
-/** The big numbers behind promise 2, limb by limb: some turns of the long division come too seldom in other tests. */
+/**
+ * The big numbers behind promise 2, limb by limb: some turns of the long division come seldom in other tests. How an
+ * object holds its numbers is free: without such a class inside there is nothing to look at.
+ */
 public final class BigTest {
     private static final int[] LIMBS = {0, 1, 2, 499_999_999, 500_000_000, 500_000_001, 999_999_998, 999_999_999};
     private static final BigInteger BASE = BigInteger.valueOf(1_000_000_000);
@@ -14,6 +17,10 @@ public final class BigTest {
 
     public static void main(String[] args) throws ReflectiveOperationException {
         CHECK.promise(2);
+        if (BIG == null) {
+            System.out.println("BigTest: no class Big inside, nothing to look at");
+            return;
+        }
         for (int round = 0; round < 20_000; round++) {
             divide(number(1 + RANDOM.nextInt(8)), number(1 + RANDOM.nextInt(5)));
             BigInteger factor = number(1 + RANDOM.nextInt(5));
@@ -29,7 +36,7 @@ public final class BigTest {
                 return inside;
             }
         }
-        throw new AssertionError("no class for big numbers");
+        return null;
     }
 
     private static BigInteger number(int limbs) {

@@ -15,6 +15,7 @@ public final class ChainsTest {
         behind();
         unlawful();
         greatChains();
+        seldomDivisions();
         CHECK.end();
     }
 
@@ -236,6 +237,23 @@ public final class ChainsTest {
         Queueward y = new Queueward();
         y.chance(0, 0, 0);
         CHECK.due("less than the base", Check.NO_SUCH, () -> y.group(0));
+    }
+
+    /** Here a long division that guesses its digits by the highest ones guesses one of them too high. */
+    private static void seldomDivisions() {
+        CHECK.promise(23);
+        int[][] all = {{99, 45, 26, 1, 0}, {83, 50, 32, 1, 1}, {97, 45, 60, 0, 0}, {77, 37, 4, 0, 1}, {73, 43, 30, 1, 1}};
+        for (int[] one : all) {
+            int[][] rows = {{one[1], one[0] - one[1]}, {one[2], one[0] - one[2]}};
+            Queueward x = chain(one[0], rows);
+            Model model = new Model();
+            model.states(2, one[0]);
+            for (int i = 0; i < 4; i++) {
+                model.chance(i / 2, i % 2, rows[i / 2][i % 2]);
+            }
+            model.behind(one[3], one[4], 60);
+            CHECK.dueText("behind 60 steps, by " + one[0], x, model.text(), () -> x.behind(one[3], one[4], 60));
+        }
     }
 
     /** The greatest chains, looked at to the last digit, against the model. */

@@ -8,13 +8,13 @@ import java.util.regex.Pattern;
 /** The text of the class keeps to the rules of ../shared/LANGUAGE.md that a text can show. Run it in the checkout. */
 public final class LanguageTest {
     private static final Check CHECK = new Check("LanguageTest");
-    private static final int LONGEST_METHOD = 60;
-    private static final List<String> IMPORTS =
-        List.of("import java.util.Arrays;", "import java.util.NoSuchElementException;");
-    private static final List<String> LIBRARY = List.of("Math.min", "Math.max", "Integer.bitCount", "Arrays.fill",
-        "System.arraycopy");
-    private static final List<String> THROWN = List.of("IllegalStateException", "IllegalArgumentException",
-        "IndexOutOfBoundsException", "ArithmeticException", "NoSuchElementException");
+    // Some sixty lines.
+    private static final int LONGEST_METHOD = 64;
+    private static final String IMPORT = "import java\\.util\\.(ArrayList|Arrays|Iterator|List|NoSuchElementException);";
+    private static final String LIBRARY =
+        "(Math|Integer|Long)\\.\\w+|Arrays\\.(fill|copyOf|copyOfRange)|System\\.arraycopy|List\\.of";
+    private static final String THROWN = "IllegalStateException|IllegalArgumentException|IndexOutOfBoundsException"
+        + "|ArithmeticException|UnsupportedOperationException|NoSuchElementException|RuntimeException";
 
     public static void main(String[] args) throws IOException {
         List<String> lines = Files.readAllLines(Path.of("src/main/java/Queueward.java"));
@@ -22,15 +22,15 @@ public final class LanguageTest {
         for (String line : lines) {
             CHECK.due("only signs from 32 to 126 in " + line, true, () -> line.chars().allMatch(c -> c >= 32 && c < 127));
             if (line.startsWith("import")) {
-                CHECK.due("an import", true, () -> IMPORTS.contains(line));
+                CHECK.due("an import", true, () -> line.matches(IMPORT));
             } else if (!line.strip().startsWith("*") && !line.strip().startsWith("/*")) {
                 code.append(line.replaceAll("//.*", "")).append('\n');
             }
         }
         String text = code.toString().replaceAll("\"[^\"\n]*\"", "\"\"");
-        none(text, "package|->|::|\\btry\\b|\\bcatch\\b|\\bfinally\\b|synchronized|\\bassert\\b|instanceof|\\bvar\\b");
-        none(text, "Exact\\(|\\bLong\\.|\"\" *\\+|\\+ *\"\"|while \\(true|for \\(;;|\\bvolatile\\b|\\brecord\\b|@");
-        only(text, "\\b((?:Math|Integer|Arrays|System|String|List|Double|Float|Character)\\.\\w+)", LIBRARY);
+        none(text, "\\bpackage\\b|\\) *->|::|\\bfinally\\b|\\bsynchronized\\b|\\bassert\\b|getMessage|hashCode");
+        none(text, "Exact\\(|\"\" *\\+|\\+ *\"\"|while \\(true|for \\(;;|\\bvolatile\\b|extends \\w*Exception|Random|nanoTime");
+        only(text, "\\b((?:Math|Integer|Long|Arrays|System|String|List|Double|Float|Character)\\.\\w+)", LIBRARY);
         only(text, "throw new (\\w+)", THROWN);
         CHECK.due("each throw is a new one", count(text, "\\bthrow\\b"), () -> count(text, "throw new \\w+\\(\"\"\\);"));
         shortMethods(text);
@@ -43,11 +43,11 @@ public final class LanguageTest {
         CHECK.due("none of " + pattern, "", () -> found);
     }
 
-    private static void only(String text, String pattern, List<String> allowed) {
+    private static void only(String text, String pattern, String allowed) {
         Matcher matcher = Pattern.compile(pattern).matcher(text);
         while (matcher.find()) {
             String found = matcher.group(1);
-            CHECK.due(found + " is in the language", true, () -> allowed.contains(found));
+            CHECK.due(found + " is in the language", true, () -> found.matches(allowed));
         }
     }
 

@@ -82,23 +82,27 @@ public final class MeasuresTest {
             x.line(1 + rule % 4, rule, rule, 3 + rule);
             CHECK.due("of another line", 0, x::errors);
         }
-        burstsThatAreJustEnough(x);
-    }
-
-    private static void burstsThatAreJustEnough(Queueward x) {
-        for (int above = 0; above < 5; above++) {
-            int burst = 0;
-            x.envelope(burst, above, 4);
-            while (!x.fits()) {
-                burst++;
-                x.envelope(burst, above, 4);
-            }
-            CHECK.due("of a burst that is just enough", 0, x::errors);
-        }
         x.envelope(9, 99, 1);
         CHECK.due("of a rate above 1", 0, x::errors);
         x.envelope(0, 0, 1);
         CHECK.due("of an envelope that they don't fit", 0, x::errors);
+        for (int above = 0; above < 5; above++) {
+            burstThatIsJustEnough(above);
+        }
+    }
+
+    private static void burstThatIsJustEnough(int above) {
+        Queueward x = new Queueward();
+        for (int job = 0; job < 12; job++) {
+            x.come(7 * job, 1 + 5 * job % 9, 0, 1);
+        }
+        boolean fits = false;
+        for (int burst = 0; burst < 200 && !fits; burst++) {
+            x.envelope(burst, above, 4);
+            fits = x.fits();
+        }
+        CHECK.due("some burst is enough", true, x::fits);
+        CHECK.due("of a burst that is just enough", 0, x::errors);
     }
 
     private static void errorsLeaveAll() {
