@@ -259,6 +259,15 @@ public final class TapeTest {
         fault(21, "at 1 takes 1 weighs 1");
         fault(8, "at1takes");
         fault(8, "at1takes12345;");
+        fault(0, "atz 1 takes 1;");
+        fault(0, "zat 1 takes 1;");
+        fault(3, "at1az1;");
+        fault(2, "at`1takes1;");
+        fault(2, "at{1takes1;");
+        fault(3, "at1/takes1;");
+        fault(3, "at1:takes1;");
+        fault(0, "`");
+        fault(0, "{at1takes1;");
     }
 
     /** Puts a sign that stands nowhere at each place of a right tape: it is the fault, or the word or number is. */
