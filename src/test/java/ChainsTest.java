@@ -115,6 +115,28 @@ public final class ChainsTest {
         Queueward w = chain(3, new int[][] {{1, 2, 0}, {2, 0, 1}, {0, 0, 3}});
         CHECK.due("those that lead to each other, but outside too", -1, () -> w.group(0));
         CHECK.due("the one outside", 0, () -> w.group(2));
+        for (int least = 0; least < 7; least++) {
+            oneThatStays(least);
+        }
+    }
+
+    /** All others lead to it alone: it is the one group. */
+    private static void oneThatStays(int one) {
+        int[][] rows = new int[7][7];
+        for (int[] row : rows) {
+            row[one] = 1;
+        }
+        Queueward x = chain(1, rows);
+        CHECK.due("how many", 1, () -> x.group(Queueward.NONE));
+        for (int state = 0; state < 7; state++) {
+            int at = state;
+            CHECK.due("group of " + at, at == one ? 0 : -1, () -> x.group(at));
+            CHECK.due("share of " + at, at == one ? 1 : 0, () -> x.longShare(at));
+            CHECK.due("reached from " + at, 1, () -> x.reach(at, one));
+            CHECK.due("never left for " + at, at == one ? 1 : 0, () -> x.reach(one, at));
+            CHECK.dueFraction("time from " + at, x, at == one ? 0 : 1, 1, () -> x.timeTo(at, one));
+            CHECK.due("never left for " + at, at == one ? (Object) 0 : Check.NO_SUCH, () -> x.timeTo(one, at));
+        }
     }
 
     private static void longShares() {

@@ -17,8 +17,15 @@ public final class LinesTest {
         turns();
         leastRest();
         room();
+        fullRoom();
         patience();
+        longestPatience();
+        goneFromTheMiddle();
+        whoHasBeenServed();
+        atTheSameTick();
         numbers();
+        shorterPlays();
+        nothingIsStale();
         longestPlay();
         meanTimes();
         sums();
@@ -242,6 +249,12 @@ public final class LinesTest {
         fate(y, 0, DONE, 0, 2, 2);
         fate(y, 1, DONE, 2, 5, 4);
         fate(y, 2, DONE, 3, 4, 3);
+        Queueward w = with(0, 1, 0, 3, 0, 2, 1, 9);
+        w.line(2, 4, 24, 999);
+        fate(w, 0, DONE, 0, 1, 1);
+        fate(w, 1, DONE, 0, 3, 3);
+        fate(w, 2, DONE, 1, 4, 4);
+        fate(w, 3, DONE, 2, 11, 10);
         Queueward z = with(0, 3, 0, 3);
         z.line(1, 4, 24, 2);
         fate(z, 0, DONE, 0, 5, 5);
@@ -315,6 +328,169 @@ public final class LinesTest {
         fate(z, 3, DONE, 2, 3, 2);
         fate(z, 1, DONE, 3, 6, 6);
         fate(z, 0, GONE, -1, 4, 4);
+    }
+
+    /** Servers and room together are just enough for the 24 jobs, or for one of them less. */
+    private static void fullRoom() {
+        Queueward x = new Queueward();
+        for (int job = 0; job < 24; job++) {
+            x.come(3, 2, 0, 1);
+        }
+        for (int servers = 1; servers <= 4; servers++) {
+            for (int rule = 0; rule < 6; rule++) {
+                x.line(servers, rule, 24 - servers, 999);
+                CHECK.due("the last place", DONE, () -> x.jobAt(23, 0));
+                CHECK.due("all are there", 24, () -> x.numberAt(3));
+                x.line(servers, rule, 23 - servers, 999);
+                fate(x, 23, LOST, -1, 3, 0);
+                CHECK.due("the last place", DONE, () -> x.jobAt(22, 0));
+                CHECK.due("all but one are there", 23, () -> x.numberAt(3));
+            }
+        }
+        x.line(1, 0, 24, 999);
+        CHECK.due("room for all", 24, () -> x.numberAt(3));
+    }
+
+    /** No job waits longer than 920 ticks: the last one of 24 that come at once and take 40 each. */
+    private static void longestPatience() {
+        Queueward x = new Queueward();
+        for (int job = 0; job < 24; job++) {
+            x.come(500, 40, 0, 1);
+        }
+        fate(x, 23, DONE, 1420, 1460, 960);
+        x.line(1, 0, 24, 921);
+        fate(x, 23, DONE, 1420, 1460, 960);
+        x.line(1, 0, 24, 920);
+        fate(x, 23, GONE, -1, 1420, 920);
+        fate(x, 22, DONE, 1380, 1420, 920);
+        CHECK.due("nobody at the last one's leaving", 0, () -> x.numberAt(1420));
+    }
+
+    private static void goneFromTheMiddle() {
+        Queueward x = with(0, 5, 1, 1, 1, 9);
+        x.line(1, 5, 24, 1);
+        fate(x, 0, DONE, 0, 6, 6);
+        fate(x, 1, DONE, 1, 2, 1);
+        fate(x, 2, GONE, -1, 2, 1);
+        Queueward y = with(0, 3, 0, 1, 0, 2);
+        y.line(1, 1, 24, 2);
+        fate(y, 2, DONE, 0, 2, 2);
+        fate(y, 0, GONE, -1, 2, 2);
+        fate(y, 1, GONE, -1, 2, 2);
+        Queueward z = with(0, 2, 0, 2, 1, 1);
+        z.line(1, 3, 24, 1);
+        fate(z, 0, DONE, 0, 2, 2);
+        fate(z, 1, GONE, -1, 1, 1);
+        fate(z, 2, GONE, -1, 2, 1);
+    }
+
+    /** They have no impatience, and are not lost any more, though they wait again. */
+    private static void whoHasBeenServed() {
+        for (int rule = 4; rule < 6; rule++) {
+            Queueward x = with(0, 4, 1, 2, 1, 2);
+            x.line(1, rule, 1, 3);
+            CHECK.due("served first", 0, () -> x.jobAt(0, 1));
+            CHECK.due("lost, with two there", LOST, () -> x.jobAt(2, 0));
+            CHECK.due("not gone", DONE, () -> x.jobAt(0, 0));
+            CHECK.due("not lost", DONE, () -> x.jobAt(1, 0));
+        }
+        Queueward y = with(0, 9, 1, 1, 2, 1, 3, 1, 4, 1);
+        y.line(1, 5, 0, 1);
+        fate(y, 0, DONE, 0, 9, 9);
+        fate(y, 1, LOST, -1, 1, 0);
+        y.line(1, 5, 1, 1);
+        fate(y, 1, DONE, 1, 2, 1);
+        fate(y, 4, DONE, 4, 5, 1);
+        fate(y, 0, DONE, 0, 13, 13);
+    }
+
+    /** First those who are done or out of patience leave, then others come, and then servers take. */
+    private static void atTheSameTick() {
+        Queueward x = with(0, 2, 2, 3);
+        x.line(1, 0, 0, 1);
+        fate(x, 1, DONE, 2, 5, 3);
+        Queueward y = with(0, 2, 1, 3);
+        y.line(1, 0, 0, 1);
+        fate(y, 1, LOST, -1, 1, 0);
+        Queueward z = with(0, 3, 0, 1, 3, 1);
+        z.line(1, 0, 1, 3);
+        fate(z, 1, GONE, -1, 3, 3);
+        fate(z, 2, DONE, 3, 4, 1);
+        z.line(1, 0, 1, 4);
+        fate(z, 1, DONE, 3, 4, 4);
+        fate(z, 2, DONE, 4, 5, 2);
+        Queueward w = with(0, 9, 0, 9, 2, 1, 2, 1);
+        w.line(1, 0, 1, 2);
+        fate(w, 1, GONE, -1, 2, 2);
+        fate(w, 2, GONE, -1, 4, 2);
+        fate(w, 3, LOST, -1, 2, 0);
+    }
+
+    /** Ticks that a longer play had, and jobs that were there, count no more. */
+    private static void shorterPlays() {
+        CHECK.promise(14);
+        Queueward x = with(0, 5, 0, 5, 0, 5);
+        CHECK.due("at the last tick", 1, () -> x.numberAt(14));
+        CHECK.due("behind it", 0, () -> x.numberAt(15));
+        x.undo();
+        CHECK.due("at the last tick", 1, () -> x.numberAt(9));
+        CHECK.due("behind it", 0, () -> x.numberAt(10));
+        x.line(2, 0, 24, 999);
+        CHECK.due("at the last tick", 2, () -> x.numberAt(4));
+        CHECK.due("behind it", 0, () -> x.numberAt(5));
+        x.clear();
+        CHECK.due("without jobs", 0, () -> x.numberAt(0));
+        CHECK.due("without jobs", 0, () -> x.sumTimes(false));
+        CHECK.promise(15);
+        x.come(0, 3, 0, 2);
+        CHECK.dueFraction("of the one job alone", x, 3, 1, () -> x.meanTime(-1));
+        CHECK.dueFraction("of the one job alone", x, 3, 1, () -> x.meanTime(0));
+    }
+
+    private static void asks(Queueward x, int count, int sum, int leastSum, int last) {
+        CHECK.promise(13);
+        CHECK.due("jobs", count == 0 ? Check.INDEX : last, () -> x.jobAt(count - 1, 2));
+        CHECK.due("no more jobs", Check.INDEX, () -> x.jobAt(count, 0));
+        CHECK.promise(14);
+        CHECK.due("at the last tick", count == 0 ? 0 : 1, () -> x.numberAt(last - 1));
+        CHECK.due("behind it", 0, () -> x.numberAt(last));
+        CHECK.promise(15);
+        CHECK.dueFraction("mean of equal weights", x, count == 0 ? 0 : sum / count, 1, () -> x.meanTime(-1));
+        CHECK.promise(16);
+        CHECK.due("sum", sum, () -> x.sumTimes(false));
+        CHECK.due("least sum", leastSum, () -> x.sumTimes(true));
+        CHECK.promise(41);
+        CHECK.due("mean", count == 0 ? 0.0 : (double) sum / count, x::mean);
+        CHECK.promise(42);
+        CHECK.due("all are done", count == 0 ? 0.0f : 1.0f, x::doneShare);
+        CHECK.promise(37);
+        CHECK.due("fits", count < 2, x::fits);
+        CHECK.promise(43);
+        CHECK.due("errors", 0, x::errors);
+    }
+
+    /** All is asked ahead of each change and behind it. */
+    private static void nothingIsStale() {
+        Queueward x = new Queueward();
+        x.envelope(4, 0, 1);
+        asks(x, 0, 0, 0, 0);
+        x.come(0, 4, 0, 1);
+        asks(x, 1, 4, 4, 4);
+        x.come(0, 2, 0, 1);
+        asks(x, 2, 10, 8, 6);
+        x.undo();
+        asks(x, 1, 4, 4, 4);
+        Check.typeText(x, "at 1 takes 1;");
+        x.read();
+        asks(x, 2, 8, 6, 5);
+        x.clear();
+        asks(x, 0, 0, 0, 0);
+        x.undo();
+        asks(x, 2, 8, 6, 5);
+        x.undo();
+        asks(x, 1, 4, 4, 4);
+        x.undo();
+        asks(x, 0, 0, 0, 0);
     }
 
     private static void numbers() {

@@ -6,6 +6,9 @@ public final class MeasuresTest {
         means();
         doneShares();
         errors();
+        errorsOfTimes();
+        errorsOfChains();
+        errorsOfClosedNets();
         errorsLeaveAll();
         CHECK.end();
     }
@@ -88,6 +91,66 @@ public final class MeasuresTest {
         CHECK.due("of an envelope that they don't fit", 0, x::errors);
         for (int above = 0; above < 5; above++) {
             burstThatIsJustEnough(above);
+        }
+    }
+
+    /** The times by the rule 0 count, not those by others, and only at a rate of 1 at most. */
+    private static void errorsOfTimes() {
+        Queueward x = new Queueward();
+        x.come(0, 2, 0, 1);
+        for (int tick = 1; tick < 5; tick++) {
+            x.come(tick, 1, 0, 1);
+        }
+        x.envelope(2, 1, 1);
+        for (int rule = 0; rule < 6; rule++) {
+            x.line(1, rule, 24, 999);
+            CHECK.due("they fit, at a rate of 1", true, x::fits);
+            CHECK.due("errors at a rate of 1", 0, x::errors);
+        }
+        Queueward y = new Queueward();
+        y.come(0, 5, 0, 1);
+        y.come(1, 5, 0, 1);
+        y.envelope(5, 5, 1);
+        CHECK.due("they fit, at a rate above 1", true, y::fits);
+        CHECK.due("a time is above the burst", 9, () -> y.jobAt(1, 3));
+        CHECK.due("errors at a rate above 1", 0, y::errors);
+        y.envelope(5, 99, 98);
+        CHECK.due("they don't fit", false, y::fits);
+        CHECK.due("errors, as they don't fit", 0, y::errors);
+    }
+
+    /** From seven states in a ring down to one. */
+    private static void errorsOfChains() {
+        Queueward x = new Queueward();
+        for (int states = 7; states > 0; states--) {
+            x.states(states, 100);
+            CHECK.due("while each state stays", 0, x::errors);
+            for (int state = 0; state < states; state++) {
+                x.chance(state, (state + 1) % states, 100 - 3 * state);
+                CHECK.due("while it is not lawful", 0, x::errors);
+                x.chance(state, state, states == 1 ? 100 : 3 * state);
+                CHECK.due("while it is lawful", 0, x::errors);
+            }
+        }
+    }
+
+    /** Not those of the net ahead. */
+    private static void errorsOfClosedNets() {
+        Queueward x = new Queueward();
+        for (int nodes = 4; nodes > 0; nodes--) {
+            x.net(nodes);
+            for (int node = 0; node < nodes; node++) {
+                CHECK.due("while it is not closed", 0, x::errors);
+                x.node(node, 0, 1 + 5 * node + nodes);
+                x.way(node, (node + 1) % nodes, 100 - 20 * node);
+                x.way(node, node, nodes == 1 ? 100 : 20 * node);
+            }
+            CHECK.due("closed", 0, x::errors);
+            CHECK.due("closed", 1, () -> x.closed(2, 0));
+            x.node(0, 0, 1000);
+            CHECK.due("with another service rate", 0, x::errors);
+            x.node(0, 1, 1000);
+            CHECK.due("with comings", 0, x::errors);
         }
     }
 

@@ -59,7 +59,29 @@ public final class NetsTest {
         CHECK.due("nodes before", 1, () -> x.net(2));
         x.way(0, 1, 100);
         x.way(1, 0, 100);
-        CHECK.dueFraction("service rates are 1", x, 1, 2, () -> x.closed(1, 0));
+        CHECK.dueFraction("service rates are the same", x, 1, 2, () -> x.closed(1, 0));
+        newServiceRates();
+    }
+
+    /** Half of what comes to the first node goes to each new one. */
+    private static void newServiceRates() {
+        Queueward x = new Queueward();
+        x.net(4);
+        x.net(2);
+        x.node(0, 1, 2);
+        x.way(0, 1, 50);
+        CHECK.dueFraction("mean at a service rate of 1", x, 1, 1, () -> x.numbers(1, -1));
+        x.node(0, 2, 3);
+        CHECK.due("as much as it serves", false, () -> x.isStable(1));
+        x.way(0, 1, 49);
+        CHECK.due("less than it serves", true, () -> x.isStable(1));
+        CHECK.due("nodes before", 2, () -> x.net(4));
+        x.node(0, 2, 3);
+        for (int to = 1; to < 4; to++) {
+            int node = to;
+            x.way(0, to, 30);
+            CHECK.dueFraction("mean at a service rate of 1", x, 3, 2, () -> x.numbers(node, -1));
+        }
     }
 
     private static void nodes() {
@@ -147,6 +169,32 @@ public final class NetsTest {
         x.way(2, 1, 100);
         x.way(0, 1, 0);
         CHECK.due("two go round for ever, without comings", Check.NO_SUCH, () -> x.rate(0));
+        oneNodeKeepsAll();
+    }
+
+    /** Each node in turn keeps all that come to it; then it sends one percent of them outside, or on. */
+    private static void oneNodeKeepsAll() {
+        for (int node = 0; node < 4; node++) {
+            Queueward x = net(new int[] {1, 9, 20, 20, 20, 20}, new int[] {1, 9, 20, 20, 20, 20},
+                new int[] {1, 9, 20, 20, 20, 20}, new int[] {1, 9, 20, 20, 20, 20});
+            int keeper = node;
+            CHECK.due("all leave", 1, () -> x.rate(keeper));
+            for (int to = 0; to < 4; to++) {
+                x.way(keeper, to, 0);
+            }
+            x.way(keeper, keeper, 100);
+            for (int asked = 0; asked < 4; asked++) {
+                int at = asked;
+                CHECK.due("one keeps all", Check.NO_SUCH, () -> x.rate(at));
+                CHECK.due("one keeps all", Check.NO_SUCH, () -> x.isStable(at));
+                CHECK.due("one keeps all", Check.NO_SUCH, () -> x.numbers(at, 0));
+                CHECK.due("one keeps all", Check.NO_SUCH, () -> x.growth(at));
+            }
+            x.way(keeper, keeper, 99);
+            CHECK.due("one percent leaves", 1, () -> x.rate(keeper));
+            x.way(keeper, (keeper + 1) % 4, 1);
+            CHECK.due("one percent goes to those who leave", 1, () -> x.rate(keeper));
+        }
     }
 
     private static void stableNodes() {

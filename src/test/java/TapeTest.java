@@ -11,6 +11,7 @@ public final class TapeTest {
         signs();
         faults();
         faultsAtEachSign();
+        faultsOfFullTapes();
         readings();
         readingAllOrNone();
         CHECK.end();
@@ -281,6 +282,31 @@ public final class TapeTest {
             }
             fault(want, text);
         }
+    }
+
+    /** Such a tape is too long to be looked at sign by sign: an object has 512 calls. */
+    private static void faultOfLong(int want, String text) {
+        Queueward x = withTape(text);
+        CHECK.due("fault of " + text, want, x::fault);
+        CHECK.due("the tape stays", text.length(), () -> x.type(0));
+        CHECK.due("the last sign stays", (int) text.charAt(text.length() - 1), () -> x.signAt(text.length() - 1));
+    }
+
+    private static void faultsOfFullTapes() {
+        String comings = "at0takes1;".repeat(89);
+        faultOfLong(-1, comings + "at0takes1;");
+        faultOfLong(-1, " ".repeat(900));
+        faultOfLong(-1, " ".repeat(890) + "at0takes1;");
+        faultOfLong(-1, "at0takes1;" + " ".repeat(890));
+        faultOfLong(899, comings + "at0takes1");
+        faultOfLong(900, comings + "at0takes12");
+        faultOfLong(900, comings + " at0takes1");
+        faultOfLong(900, comings + "at0 takes ");
+        faultOfLong(890, comings + ";");
+        faultOfLong(899, comings + "at0takes1:");
+        faultOfLong(898, comings + "at0takes;;");
+        faultOfLong(899, " ".repeat(899) + ";");
+        faultOfLong(900, " ".repeat(898) + "at");
     }
 
     /** Whether a word of letters is cut here: what is left of it is another word, which is the fault. */
