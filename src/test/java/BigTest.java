@@ -77,6 +77,8 @@ public final class BigTest {
         Object again = bigOf(one);
         Object gotLong = method("isLong").invoke(again);
         CHECK.due(one + " is a long", isLong, () -> gotLong);
+        Object isOne = method("isOne").invoke(again);
+        CHECK.due(one + " is one", one.equals(BigInteger.ONE), () -> isOne);
         Object digits = method("digitCount").invoke(again);
         CHECK.due("digits of " + one, one.toString().length(), () -> digits);
         if (isLong) {

@@ -9,6 +9,7 @@ public final class NetsTest {
         nodes();
         ways();
         rates();
+        oneOfHundredLeaves();
         ratesThatAreNotThere();
         stableNodes();
         numbersThere();
@@ -145,6 +146,33 @@ public final class NetsTest {
         CHECK.dueFraction("from another one too", y, 199_000, 1, () -> y.rate(1));
         CHECK.dueFraction("only from outside", y, 1000, 1, () -> y.rate(2));
         CHECK.dueFraction("only from a node", y, 10, 1, () -> y.rate(3));
+    }
+
+    /** The most that still leave some outside: 99 of 100 come back to the same node. */
+    private static void oneOfHundredLeaves() {
+        Queueward x = net(new int[] {1, 101, 99});
+        CHECK.promise(29);
+        CHECK.dueFraction("a hundred rounds each", x, 100, 1, () -> x.rate(0));
+        CHECK.promise(30);
+        CHECK.due("just below the service rate", true, () -> x.isStable(0));
+        CHECK.promise(31);
+        CHECK.dueFraction("mean just below the service rate", x, 100, 1, () -> x.numbers(0, -1));
+        CHECK.dueFraction("none there", x, 1, 101, () -> x.numbers(0, 0));
+        x.node(0, 10, 1000);
+        CHECK.promise(29);
+        CHECK.dueFraction("just the greatest service rate", x, 1000, 1, () -> x.rate(0));
+        CHECK.promise(30);
+        CHECK.due("not below it", false, () -> x.isStable(0));
+        CHECK.promise(32);
+        x.node(0, 1000, 1);
+        CHECK.dueFraction("the most that grow", x, 99_999, 100, () -> x.growth(0));
+        Queueward y = net(new int[] {1, 101, 99, 0}, new int[] {1, 1000, 0, 99});
+        CHECK.promise(29);
+        CHECK.dueFraction("beside another such", y, 100, 1, () -> y.rate(0));
+        CHECK.dueFraction("beside another such", y, 100, 1, () -> y.rate(1));
+        CHECK.promise(31);
+        CHECK.dueFraction("mean just below the service rate", y, 100, 1, () -> y.numbers(0, -1));
+        CHECK.dueFraction("mean far below the service rate", y, 1, 9, () -> y.numbers(1, -1));
     }
 
     private static void ratesThatAreNotThere() {

@@ -76,6 +76,7 @@ public final class TapeTest {
         CHECK.due("too great above", Check.ARITHMETIC, () -> x.result(false));
         CHECK.due("too great below", Check.ARITHMETIC, () -> x.result(true));
         longsAtTheirEdge();
+        powersOfTen();
         CHECK.due("an exception leaves the result", Check.ARGUMENT, () -> x.lostShare(31, 1, 1));
         CHECK.due("still too great", Check.ARITHMETIC, () -> x.result(true));
         x.lostShare(1, 3, 4);
@@ -107,6 +108,41 @@ public final class TapeTest {
         CHECK.due("2 ^ 63", Check.ARITHMETIC, () -> y.result(true));
         CHECK.due("written", 39, y::write);
         CHECK.due("on the tape", "9223372036854775807/9223372036854775808", () -> Check.tapeOf(y));
+    }
+
+    /** Those just above the longs have low digits that look like a long. */
+    private static void powersOfTen() {
+        Queueward x = new Queueward();
+        x.states(2, 10);
+        x.chance(0, 0, 1);
+        x.chance(0, 1, 9);
+        for (int steps = 0; steps <= 60; steps++) {
+            int behind = steps;
+            Object due = steps > 18 ? Check.ARITHMETIC : (Object) power(10, steps);
+            CHECK.due("1 by 10 ^ " + steps, 1, () -> x.behind(0, 0, behind));
+            CHECK.due("above the line", 1L, () -> x.result(false));
+            CHECK.due("10 ^ " + steps, due, () -> x.result(true));
+        }
+        Queueward y = new Queueward();
+        y.states(2, 100);
+        y.chance(0, 0, 99);
+        y.chance(0, 1, 1);
+        for (int steps = 0; steps <= 60; steps++) {
+            int behind = steps;
+            y.behind(0, 0, steps);
+            Object due = behind > 9 ? Check.ARITHMETIC : (Object) power(100, behind);
+            CHECK.due("100 ^ " + steps, due, () -> y.result(true));
+            CHECK.due("99 ^ " + steps, behind > 9 ? Check.ARITHMETIC : (Object) power(99, behind),
+                () -> y.result(false));
+        }
+    }
+
+    private static long power(long of, int exponent) {
+        long power = 1;
+        for (int i = 0; i < exponent; i++) {
+            power *= of;
+        }
+        return power;
     }
 
     private static void writing() {
